@@ -72,8 +72,7 @@ public final class OutInTime {
     if (faultNumber != 0) {
       return NONE;
     }
-    now.clear();
-    now.town.become(reader.town);
+    now.startWith(reader.town);
     taped = 0;
     forget();
     return now.town.streets;
@@ -288,21 +287,16 @@ public final class OutInTime {
   }
 
   public int kinds(int t, int what) {
-    if (!isMinute(t)) {
+    if (!isMinute(t) || what < 0 || what > 2) {
       return NONE;
     }
-    switch (what) {
-      case 0:
-        return outs.mostOf(now, t, Net.PLAIN);
-      case 1:
-        return outs.mostOf(now, t, Net.SLOW);
-      case 2:
-        outs.findMost(now);
-        int both = outs.mostOf(now, t, Net.PLAIN) + outs.mostOf(now, t, Net.SLOW);
-        return Math.min(outs.most[t], both);
-      default:
-        return NONE;
+    int plain = what == 1 ? 0 : outs.mostOf(now, t, Net.PLAIN);
+    int slow = what == 0 ? 0 : outs.mostOf(now, t, Net.SLOW);
+    if (what < 2) {
+      return plain + slow;
     }
+    outs.findMost(now);
+    return Math.min(outs.most[t], plain + slow);
   }
 
   public boolean sign(int place, int street) {
@@ -359,6 +353,7 @@ public final class OutInTime {
       case 0:
         return guide.knownSum(now, walk, street, minute);
       case 1:
+        guide.findBest(now, walk);
         return guide.lateSum(now, walk, street, minute);
       default:
         return NONE;
@@ -817,8 +812,8 @@ public final class OutInTime {
       Arrays.fill(signs, NONE);
     }
 
-    private void clear() {
-      town.clear();
+    private void startWith(Town told) {
+      town.become(told);
       turned = 0;
       Arrays.fill(signs, NONE);
       changes = 0;
@@ -1660,8 +1655,8 @@ public final class OutInTime {
       return sum;
     }
 
+    /** Best signs are found ahead of it. */
     private int lateSum(State now, Walk walk, int street, int minute) {
-      findBest(now, walk);
       for (int place = 0; place < PLACES; place++) {
         walk.setPlan(place, 0, best[place]);
       }

@@ -173,15 +173,43 @@ public final class PromisesTest {
     C.due("fault(-1)", x.fault(-1), NONE);
     Check.read(x, "");
     C.due("fault(0)", x.fault(0), 0);
+    C.due("fault(1)", x.fault(1), NONE);
+    textsOneByOne();
     standing();
     numbers();
     secondTimes();
     tooMany();
   }
 
+  /** Nothing of a text is left for the next one. */
+  private static void textsOneByOne() {
+    OutInTime x = Check.of("hold A 1;safe A 1;street A B 1 1;open 0 3 4;turns 0;door A 0 5;slow 0;door A 0 6;slow 1;");
+    C.due("about(7)", x.about(7), 11);
+    C.due("a next text", Check.read(x, "street A B 1 1;door A 0 5;door A 0 6;"), 1);
+    C.due("street(0, 4)", x.street(0, 4), 0);
+    C.due("street(0, 5)", x.street(0, 5), 12);
+    C.due("street(0, 6)", x.street(0, 6), 0);
+    C.due("about(7)", x.about(7), 0);
+    C.due("place(0, 0)", x.place(0, 0), 99);
+    C.due("place(0, 1)", x.place(0, 1), 0);
+    C.due("all for the first time again",
+        Check.read(x, "hold A 1;safe A 1;street A B 1 1;open 0 3 4;turns 0;door A 0 5;slow 0;"), 1);
+    C.due("about(7)", x.about(7), 5);
+    Check.read(x, "hold A 15;");
+    Check.read(x, "hold A 1");
+    C.due("fault(1)", x.fault(1), 8);
+    Check.read(x, "holds");
+    Check.read(x, "hold");
+    C.due("fault(1)", x.fault(1), 4);
+  }
+
   private static void standing() {
     String[] heads = {"hold", "street", "open", "turns", "door", "safe", "slow"};
     for (String head : heads) {
+      faultDue("x" + head.substring(1) + " A 1;", 1, 0);
+      faultDue(head.substring(0, head.length() - 1) + "x A 1;", 1, 0);
+      faultDue(head + " " + head + " A 1;", 1, head.length() + 1);
+      faultDue(head + " " + head + " .", 1, head.length() + 1);
       faultDue(head, 1, head.length());
       faultDue("  " + head + "x", 1, 2);
       faultDue(head.toUpperCase(), 1, 0);
@@ -199,6 +227,9 @@ public final class PromisesTest {
     faultDue("hold A A;", 1, 7);
     faultDue("hold 1 1;", 1, 5);
     faultDue("hold AB 1;", 1, 5);
+    faultDue("hold AZ 1;", 1, 5);
+    faultDue("hold Az 1;", 1, 5);
+    faultDue("street A street A B 1 1;", 1, 9);
     faultDue("hold I 1;", 1, 5);
     faultDue("hold a 1;", 1, 5);
     faultDue("hold @ 1;", 1, 5);
@@ -362,6 +393,11 @@ public final class PromisesTest {
   private static void signsAfterTurns() {
     String text = "street A B 1 1;turns 0;street A C 1 1;street B C 1 1;turns 2;door A 0 3;door B 0 2;safe C 9;";
     OutInTime x = Check.of(text);
+    x.sign(0, 0);
+    x.turn(1);
+    C.due("A's sign is gone", x.signed(0, 0), 3);
+    x.turn(0);
+    C.due("and stays gone", x.signed(0, 0), 3);
     x.sign(0, 1);
     x.sign(1, 2);
     x.turn(1);
@@ -472,6 +508,8 @@ public final class PromisesTest {
       C.due("all(" + t + ", 3)", x.all(t, 3), t < 3 ? NONE : 3);
     }
     C.due("all(12, 3)", x.all(12, 3), 3);
+    C.due("all(2, 2)", x.all(2, 2), NONE);
+    C.due("all(2, 3)", x.all(2, 3), NONE);
     C.due("all(12, 4)", x.all(12, 4), NONE);
     C.due("all(12, -1)", x.all(12, -1), NONE);
     C.due("all(13, 0)", x.all(13, 0), NONE);
@@ -483,6 +521,13 @@ public final class PromisesTest {
     C.due("turned, all(3, 1)", x.all(3, 1), 1);
     C.due("turned, all(3, 2)", x.all(3, 2), NONE);
     C.due("turned, all(3, 0)", x.all(3, 0), 3);
+    String later = "street A C 2 1;street A D 4 1;street B C 3 1;door A 0 1;door B 0 1;safe C 1;safe D 1;";
+    String[] texts = {QUARREL, later, QUARREL};
+    for (int i = 0; i < 3; i++) {
+      Check.read(x, texts[i]);
+      C.due("town behind town: all(12, 2)", x.all(12, 2), i == 1 ? 2 : 1);
+      C.due("town behind town: all(12, 3)", x.all(12, 3), i == 1 ? 4 : 3);
+    }
   }
 
   private static void promise13() {
@@ -505,7 +550,8 @@ public final class PromisesTest {
     C.due("turned(1)", x.turned(1), 1);
     x = Check.of("street B A 5 1;turns 0;street B A 1 1;turns 1;door A 0 1;safe B 1;");
     C.due("a higher one that is quicker: turned(0)", x.turned(0), 2);
-    C.due("of another town: turned(0)", Check.read(x, "") + x.turned(0), 0);
+    C.due("of a town out of which none can: turned(0)", Check.read(x, "street B A 5 1;turns 0;door A 0 1;") + x.turned(0), 1);
+    C.due("turned(1)", x.turned(1), NONE);
   }
 
   private static void promise14() {
@@ -524,6 +570,15 @@ public final class PromisesTest {
     C.due("10 can be: wider(2, 1)", x.wider(2, 1), 1);
     C.due("of like ones the lowest", x.wider(2, 0), 0);
     C.due("by 3 all are out", x.wider(3, 0), NONE);
+    x = Check.of("street A B 1 1;street B C 1 1;door A 0 9;safe C 9;");
+    C.due("one alone brings nothing", x.wider(5, 0), NONE);
+    x = Check.of("hold B 1;street A B 1 9;open 0 0 0;street B C 1 9;open 1 3 4;door A 0 9;safe C 9;");
+    C.due("what a place holds grows by no street", x.wider(12, 0), NONE);
+    x = Check.of("street A B 1 1;turns 0;door B 0 9;safe A 9;");
+    C.due("wider(2, 0)", x.wider(2, 0), NONE);
+    x.turn(1);
+    C.due("turned, wider(2, 0)", x.wider(2, 0), 0);
+    C.due("turned, wider(2, 1)", x.wider(2, 1), 2);
   }
 
   private static void promise15() {
@@ -574,6 +629,9 @@ public final class PromisesTest {
     }
     x.enter(1, 3, 1);
     judgedDue(x, 2, 3, 1);
+    for (int what : others) {
+      C.due("not lawful: judged(" + what + ")", x.judged(what), NONE);
+    }
     C.due("judged(3)", x.judged(3), 4);
     x.enter(1, 2, 2);
     judgedDue(x, 1, 2, 1);
@@ -738,6 +796,7 @@ public final class PromisesTest {
     int[][] wrong = {
       {0, 2, NONE, NONE, 0, 0, 1}, {0, 0, NONE, NONE, 0, 0, 1}, {0, NONE, 1, NONE, 0, 0, 1},
       {0, 1, NONE, 2, 0, 0, 1}, {0, NONE, NONE, 1, 0, 0, 1}, {NONE, 0, 1, NONE, 0, 0, 1},
+      {0, 1, 1, NONE, 0, 0, 1}, {0, 1, 2, 2, 0, 0, 1}, {0, 1, NONE, NONE, -2, 0, 1},
       {NONE, NONE, NONE, NONE, 0, 0, 1}, {5, NONE, NONE, NONE, 0, 0, 1}, {-2, NONE, NONE, NONE, 0, 0, 1},
       {0, -2, NONE, NONE, 0, 0, 1}, {0, 1, 2, 9, 0, 0, 1}, {0, NONE, NONE, NONE, 3, 2, 1},
       {0, NONE, NONE, NONE, -1, 2, 1}, {0, NONE, NONE, NONE, 3, 13, 1}, {0, NONE, NONE, NONE, 3, 3, 0},
@@ -978,6 +1037,8 @@ public final class PromisesTest {
     x = Check.of("street A B 1 1;door A 0 2;safe B 9;");
     C.due("one is in, the other not", x.falls(0, 1, 0), 12);
     C.due("falls(0, 1, 1)", x.falls(0, 1, 1), 12);
+    C.due("falls(0, 0, 1)", x.falls(0, 0, 1), 0);
+    C.due("it falls no more", x.changed(3), 21);
     C.due("falls(0, 2, 1)", x.falls(0, 2, 1), 23);
     x.sign(0, 0);
     C.due("signed goes on", x.signed(2, NONE), 2);
@@ -1005,12 +1066,13 @@ public final class PromisesTest {
     x.sign(2, NONE);
     C.due("ring(1)", x.ring(1), 0);
     x = Check.of("street A B 1 1;street B C 1 1;street C D 1 1;street D E 1 1;street E F 1 1;street F G 1 1;"
-        + "street G H 1 1;street H A 1 1;street H G 1 1;door E 12 1;door A 0 1;");
+        + "street G H 1 1;street H A 1 1;street H G 1 1;door E 12 1;");
     for (int place = 0; place < 8; place++) {
       x.sign(place, place);
     }
-    C.due("a ring of all", x.ring(7), 1);
-    C.due("a ring of all", x.ring(4), 1);
+    for (int place = 0; place < 8; place++) {
+      C.due("a ring of all", x.ring(place), 1);
+    }
     x.sign(7, 8);
     C.due("ring(6)", x.ring(6), 1);
     C.due("ring(7)", x.ring(7), 1);
@@ -1046,6 +1108,9 @@ public final class PromisesTest {
     C.due("signs(-1)", x.signs(NONE), 12);
     C.due("signs(0)", x.signs(0), 0);
     C.due("signs(1)", x.signs(1), 2);
+    x = Check.of("street H G 5 1;street H G 2 1;street H A 1 1;door H 0 1;safe G 1;");
+    C.due("the last place: signs(7)", x.signs(7), 1);
+    C.due("signs(-1)", x.signs(NONE), 11);
     C.due("without streets", Check.of("door A 3 4;safe A 9;").signs(NONE), 40);
   }
 
@@ -1056,6 +1121,7 @@ public final class PromisesTest {
     x.sign(0, 0);
     x.sign(1, 2);
     x.change(0, 5, NONE);
+    x.change(1, 2, 2);
     x.enter(0, 0, 3);
     x.slow(1, 1, 1);
     C.due("image()", x.image(), 3);
@@ -1066,20 +1132,25 @@ public final class PromisesTest {
     x.sign(0, NONE);
     x.turn(0);
     Check.read(x, QUARREL + "hold B 1;");
-    C.due("quick()", x.quick(), 3);
-    x.turn(0);
+    x.change(1, 3, NONE);
     Check.tape(x, "safe A 0;");
     x.town();
 
     C.part("promise 29");
     for (int time = 0; time < 2; time++) {
+      C.due("ahead of it: most(12)", x.most(12), time == 0 ? 2 : 3);
+      C.due("ahead of it: all(12, 0)", x.all(12, 0), time == 0 ? 21 : 24);
+      C.due("ahead of it: signs(-1)", x.signs(NONE), time == 0 ? 21 : 24);
+      C.due("ahead of it: turned(0)", x.turned(0), time == 0 ? 0 : 1);
       C.due("back()", x.back(), 3);
       C.due("street(0, 7)", x.street(0, 7), 1);
       C.due("street(0, 0)", x.street(0, 0), 0);
       C.due("signed(2, -1)", x.signed(2, NONE), 3);
-      C.due("about(6)", x.about(6), 1);
+      C.due("about(6)", x.about(6), 2);
       C.due("about(1)", x.about(1), 1);
       C.due("about(5)", x.about(5), 6);
+      C.due("all(12, 0)", x.all(12, 0), 33);
+      C.due("changed(4)", x.changed(4), 33);
       C.due("place(1, 0)", x.place(1, 0), 99);
       C.due("judged(3)", x.judged(3), 2);
       C.due("quick()", x.quick(), 2);
@@ -1090,15 +1161,52 @@ public final class PromisesTest {
       x.enter(0, 0, 0);
       x.slow(1, 1, 0);
       x.sign(1, NONE);
-      x.change(0, 5, 0);
-      x.change(0, 7, 0);
       x.turn(0);
+      x.change(0, 5, 1);
+      x.change(1, 2, NONE);
+      x.change(1, 1, NONE);
     }
+    changesComeBack();
     Check.read(x, "");
     C.due("an image of nothing", x.image(), 0);
     Check.read(x, LINE);
     C.due("back()", x.back(), 0);
     C.due("most(12)", x.most(12), 0);
+  }
+
+  private static void changesComeBack() {
+    OutInTime x = Check.of("street A B 1 1;street A C 1 1;door A 0 9;door D 0 9;safe B 99;street D B 1 9;");
+    x.change(0, 2, 0);
+    x.change(0, 4, 1);
+    x.change(3, 6, 2);
+    x.image();
+    int[] before = seenOf(x);
+    C.due("of A and D by 12", x.signed(12, NONE), 11);
+    Check.read(x, "street D B 1 9;door D 0 9;safe B 5;");
+    for (int minute = 12; minute >= 5; minute--) {
+      x.change(3, minute, 0);
+    }
+    x.back();
+    int[] after = seenOf(x);
+    for (int i = 0; i < before.length; i++) {
+      C.due("as it was: signed " + i, after[i], before[i]);
+    }
+    x.change(0, 2, 1);
+    x.change(0, 4, 0);
+    C.due("other streets", x.signed(12, NONE), 16);
+    x.back();
+    after = seenOf(x);
+    for (int i = 0; i < before.length; i++) {
+      C.due("as it was: signed " + i, after[i], before[i]);
+    }
+  }
+
+  private static int[] seenOf(OutInTime x) {
+    int[] seen = new int[13 * 10];
+    for (int i = 0; i < seen.length; i++) {
+      seen[i] = x.signed(i / 10, i % 10 - 1);
+    }
+    return seen;
   }
 
   private static void promise30() {
@@ -1110,6 +1218,7 @@ public final class PromisesTest {
     for (int what = 0; what < 8; what++) {
       C.due("about(" + what + ")", x.about(what), due[what]);
     }
+    C.due("the first door's are slow", Check.of("door A 0 7;slow 0;door B 1 8;").about(7), 7);
     C.due("about(8)", x.about(8), NONE);
     C.due("about(-1)", x.about(-1), NONE);
     C.due("about(HIGH)", x.about(HIGH), NONE);

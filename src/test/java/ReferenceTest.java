@@ -1,10 +1,11 @@
+import java.util.ArrayList;
 import java.util.Arrays;
 import java.util.List;
-import java.util.ArrayList;
 
 /** Random towns, each answer against one worked out another way. */
 public final class ReferenceTest {
   private static final Check CHECK = new Check();
+  private static OutInTime last = new OutInTime();
 
   public static void main(String[] args) {
     for (int seed = 0; seed < 400; seed++) {
@@ -19,7 +20,19 @@ public final class ReferenceTest {
     for (int seed = 0; seed < 2000; seed++) {
       againstJudge(seed);
     }
+    for (int seed = 0; seed < 400; seed++) {
+      againstWaves(seed);
+    }
     CHECK.finish();
+  }
+
+  /** Some towns come behind another one in the same object: nothing of that is to be left. */
+  private static OutInTime of(Plan plan, int seed) {
+    if (seed % 5 == 0) {
+      last = new OutInTime();
+    }
+    CHECK.due("town()", Check.read(last, plan.text()), plan.streets.size());
+    return last;
   }
 
   private static void againstAllWays(int seed) {
@@ -28,7 +41,7 @@ public final class ReferenceTest {
     for (Plan.Door door : plan.doors) {
       door.minute = Math.min(door.minute, 2);
     }
-    OutInTime x = Check.of(plan.text());
+    OutInTime x = of(plan, seed);
     CHECK.part("all ways " + seed + " " + plan.text());
     int last = 5;
     Ways ways = new Ways(plan, last);
@@ -60,7 +73,7 @@ public final class ReferenceTest {
   private static void againstMatrix(int seed) {
     Dice dice = new Dice(1000 + seed);
     Plan plan = Plan.random(dice, 3 + dice.upTo(5), 14, 6, 20);
-    OutInTime x = Check.of(plan.text());
+    OutInTime x = of(plan, seed);
     CHECK.part("matrix " + seed + " " + plan.text());
     int set = dice.upTo(1) == 0 ? plan.turnable() & dice.upTo(65535) : 0;
     CHECK.due("turn(" + set + ")", x.turn(set), true);
@@ -147,16 +160,21 @@ public final class ReferenceTest {
 
   private static void againstCrowd(int seed) {
     Dice dice = new Dice(2000 + seed);
-    Plan told = Plan.random(dice, 3 + dice.upTo(3), 9, 5, 15);
+    Plan told = Plan.random(dice, 3 + dice.upTo(5), 10, 5, 15);
     int set = dice.upTo(2) == 0 ? told.turnable() & dice.upTo(65535) : 0;
     Plan town = told.turned(set);
-    OutInTime x = Check.of(told.text());
+    OutInTime x = of(told, seed);
     CHECK.part("crowd " + seed + " " + told.text());
     CHECK.due("turn(" + set + ")", x.turn(set), true);
     int[] signs = new int[8];
     Arrays.fill(signs, -1);
     List<int[]> changes = new ArrayList<>();
     for (int n = 0; n < 20; n++) {
+      if (dice.upTo(9) == 0) {
+        set = told.turnable() & dice.upTo(65535);
+        turn(x, told, set, town, signs, changes);
+        town = told.turned(set);
+      }
       tellSign(x, town, dice, signs, changes);
     }
     int[][] seen = Crowd.walk(town, plan(signs, changes), -1, 0);
@@ -172,6 +190,21 @@ public final class ReferenceTest {
     checkSigns(x, town);
     for (int n = 0; n < 3 && town.streets.size() > 0; n++) {
       checkFalls(x, town, dice.upTo(town.streets.size() - 1), dice.upTo(12));
+    }
+  }
+
+  /** Signs and changes to streets whose way changes are none then. */
+  private static void turn(OutInTime x, Plan told, int set, Plan before, int[] signs, List<int[]> changes) {
+    CHECK.due("turn(" + set + ")", x.turn(set), true);
+    Plan after = told.turned(set);
+    for (int s = 0; s < after.streets.size(); s++) {
+      boolean other = after.streets.get(s).from != before.streets.get(s).from;
+      for (int p = 0; p < 8 && other; p++) {
+        signs[p] = signs[p] == s ? -1 : signs[p];
+      }
+      for (int[] change : changes) {
+        change[2] = other && change[2] == s ? -1 : change[2];
+      }
     }
   }
 
@@ -308,7 +341,7 @@ public final class ReferenceTest {
     for (Plan.Door door : town.doors) {
       door.minute = Math.min(door.minute, 3);
     }
-    OutInTime x = Check.of(town.text());
+    OutInTime x = of(town, seed);
     CHECK.part("judge " + seed + " " + town.text());
     int[][] plain = new int[16][13];
     int[][] slow = new int[16][13];
@@ -330,6 +363,64 @@ public final class ReferenceTest {
       }
       checkPieces(x, town, plain);
     }
+  }
+
+  private static void againstWaves(int seed) {
+    Dice dice = new Dice(8000 + seed);
+    Plan town = Plan.random(dice, 2 + dice.upTo(1), 6, 1, 1);
+    OutInTime x = of(town, seed);
+    CHECK.part("waves " + seed + " " + town.text());
+    int[][] told = new int[16][13];
+    for (int n = 0; n < 60 && town.streets.size() > 0; n++) {
+      int[] line = new int[4];
+      Arrays.fill(line, -1);
+      int place = dice.upTo(2);
+      for (int k = 0; k < 1 + dice.upTo(3); k++) {
+        line[k] = dice.upTo(town.streets.size() - 1);
+        for (int tries = 0; tries < 6 && town.streets.get(line[k]).from != place; tries++) {
+          line[k] = dice.upTo(town.streets.size() - 1);
+        }
+        place = town.streets.get(line[k]).to;
+      }
+      int from = dice.upTo(8);
+      int till = from + dice.upTo(3);
+      int many = 1 + dice.upTo(7);
+      int[][] after = waved(town, told, line, from, till, many);
+      boolean got = x.wave(line[0], line[1], line[2], line[3], from, till, many);
+      CHECK.due("wave " + Arrays.toString(line) + from + ".." + till + " " + many, got, after != null);
+      told = after != null ? after : told;
+      if (n % 10 == 9) {
+        checkPieces(x, town, told);
+      }
+    }
+  }
+
+  /** What is told with a wave more, or null if it can't be. */
+  private static int[][] waved(Plan town, int[][] told, int[] line, int from, int till, int many) {
+    int[][] after = new int[16][];
+    for (int s = 0; s < 16; s++) {
+      after[s] = told[s].clone();
+    }
+    for (int t = from; t <= till; t++) {
+      int at = t;
+      int place = -1;
+      for (int s : line) {
+        if (s < 0) {
+          break;
+        }
+        Plan.Street street = town.streets.get(s);
+        if (place >= 0 && street.from != place || at > 12) {
+          return null;
+        }
+        after[s][at] += many;
+        if (after[s][at] > 30) {
+          return null;
+        }
+        at += street.minutes;
+        place = street.to;
+      }
+    }
+    return after;
   }
 
   private static void tell(OutInTime x, boolean slowly, int s, int t, int n) {
