@@ -965,8 +965,8 @@ public final class OutInTime {
     private final int[] label = new int[ARCS];
     private final int[] gain = new int[ARCS];
     private final int[] stored = new int[ARCS];
+    /** By which arc the last search came to a node; NONE: it did not. */
     private final int[] via = new int[NODES];
-    private final boolean[] seen = new boolean[NODES];
     private final int[] queue = new int[NODES];
     private final int[] far = new int[NODES];
 
@@ -1067,8 +1067,9 @@ public final class OutInTime {
 
     /** Looks for a way from the source to the sink; a tight one goes by the farthest arcs alone. */
     private boolean search(int horizon, boolean tight) {
-      Arrays.fill(seen, false);
-      seen[SOURCE] = true;
+      Arrays.fill(via, NONE);
+      // the search is at the source from the first on; by which arc is never asked
+      via[SOURCE] = 0;
       queue[0] = SOURCE;
       int last = 1;
       for (int i = 0; i < last && i < NODES; i++) {
@@ -1077,8 +1078,7 @@ public final class OutInTime {
         for (int n = 0; n < ARCS && arc != NONE; n++) {
           int to = target[arc];
           boolean fits = !tight || far[node] + gain[arc] == far[to];
-          if (room[arc] > 0 && !seen[to] && fits && !isBehind(to, horizon)) {
-            seen[to] = true;
+          if (room[arc] > 0 && via[to] == NONE && last < NODES && fits && !isBehind(to, horizon)) {
             via[to] = arc;
             if (to == SINK) {
               return true;
@@ -1096,19 +1096,23 @@ public final class OutInTime {
     private int push() {
       int n = PEOPLE;
       int node = SINK;
-      for (int step = 0; step < NODES && node != SOURCE; step++) {
+      for (int step = 0; step < NODES && node != SOURCE && via[node] != NONE; step++) {
         int arc = via[node];
         n = Math.min(n, room[arc]);
         node = target[arc ^ 1];
       }
       node = SINK;
-      for (int step = 0; step < NODES && node != SOURCE; step++) {
+      for (int step = 0; step < NODES && node != SOURCE && via[node] != NONE; step++) {
         int arc = via[node];
         room[arc] -= n;
         room[arc ^ 1] += n;
         node = target[arc ^ 1];
       }
       return n;
+    }
+
+    private boolean saw(int node) {
+      return via[node] != NONE;
     }
 
     private void setGains(int[] worth) {
@@ -1209,7 +1213,7 @@ public final class OutInTime {
       for (int place = 0; place < PLACES; place++) {
         int bits = 0;
         for (int minute = 0; minute <= t; minute++) {
-          bits |= net.seen[Net.node(place, minute)] ? 1 << minute : 0;
+          bits |= net.saw(Net.node(place, minute)) ? 1 << minute : 0;
         }
         cutMinutes[t * PLACES + place] = bits;
       }

@@ -230,6 +230,7 @@ public final class PromisesTest {
     faultDue("hold AZ 1;", 1, 5);
     faultDue("hold Az 1;", 1, 5);
     faultDue("street A street A B 1 1;", 1, 9);
+    faultDue("street A street .", 1, 9);
     faultDue("hold I 1;", 1, 5);
     faultDue("hold a 1;", 1, 5);
     faultDue("hold @ 1;", 1, 5);
