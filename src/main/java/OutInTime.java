@@ -69,11 +69,11 @@ public final class OutInTime {
   public int town() {
     faultNumber = reader.read(tape, taped);
     faultAt = reader.faultAt;
+    taped = 0;
     if (faultNumber != 0) {
       return NONE;
     }
     now.startWith(reader.town);
-    taped = 0;
     forget();
     return now.town.streets;
   }

@@ -16,6 +16,7 @@ public final class PromisesTest {
     promise1();
     promises2And3();
     promise4();
+    tapeBehindFault();
     promise5();
     promises6And7();
     promise8();
@@ -123,7 +124,7 @@ public final class PromisesTest {
     C.due("signed(4, -1)", x.signed(4, NONE), 1);
     C.due("about(6)", x.about(6), 1);
     C.due("judged(3)", x.judged(3), 2);
-    C.due("the tape stays", x.about(4), 9);
+    C.due("the tape is empty with a fault too", x.about(4), 0);
     C.due("town()", Check.read(x, TURN), 3);
     C.due("nothing turned", x.street(0, 7), 0);
     C.due("quick()", x.quick(), 6);
@@ -144,6 +145,25 @@ public final class PromisesTest {
     C.due("about(5)", x.about(5), 4);
     C.due("naughts ahead", Check.read(x, "hold A 0000000000000000000000000000007;"), 0);
     C.due("place(0, 0)", x.place(0, 0), 7);
+  }
+
+  private static void tapeBehindFault() {
+    OutInTime x = new OutInTime();
+    C.due("feed", x.feed(0, 0, 0, 0, 0), 20);
+    C.due("town() of no tokens", x.town(), NONE);
+    C.due("end(1) of the empty tape", x.end(1), NONE);
+    C.due("feed comes to an empty tape", x.feed(0x686f6c64, 0x20412037, 0x3b202020, 0x20202020, 0x2020200a), 20);
+    C.due("the fault stays until the next town()", x.fault(0), 1);
+    C.due("nothing of the faulty text is ahead of it", x.town(), 0);
+    C.due("place(0, 0)", x.place(0, 0), 7);
+    C.due("town() with a fault of all 300 bytes", Check.read(x, times(".", 300)), NONE);
+    C.due("fault(1)", x.fault(1), 0);
+    C.due("300 can come again", x.feed(0, 0, 0, 0, 0), 20);
+    C.due("town() with a fault once more", x.town(), NONE);
+    C.due("the former one stays", x.place(0, 0), 7);
+    C.due("the tape is a text without tokens then", x.town(), 0);
+    C.due("fault(0)", x.fault(0), 0);
+    C.due("and it is the town", x.place(0, 0), 99);
   }
 
   private static void faultDue(String text, int number, int at) {
@@ -1134,8 +1154,8 @@ public final class PromisesTest {
     x.turn(0);
     Check.read(x, QUARREL + "hold B 1;");
     x.change(1, 3, NONE);
-    Check.tape(x, "safe A 0;");
-    x.town();
+    Check.read(x, "safe A 0;");
+    Check.tape(x, "safe A 9;");
 
     C.part("promise 29");
     for (int time = 0; time < 2; time++) {
