@@ -38,7 +38,9 @@ final class Check {
       }
       x.feed(five[0], five[1], five[2], five[3], five[4]);
     }
-    x.end(text.length());
+    if (x.end(text.length()) != text.length()) {
+      throw new IllegalStateException("a text too long for the tape: " + text);
+    }
   }
 
   static int read(OutInTime x, String text) {
