@@ -26,10 +26,12 @@ public final class GoingBoundsTest {
     bestSumOneWay();
     twoQuarrel();
     quarrelsInOrder();
+    quarrelsAtTheEnds();
     quarrelWhats();
     turnSets();
     signsOfTurned();
     bestTurn();
+    bestTurnOfMany();
     bestTurnOfFive();
     wider();
     widerTen();
@@ -363,6 +365,34 @@ public final class GoingBoundsTest {
     C.due("up to 5: second", x.all(5, 3), 3);
   }
 
+  private static void quarrelsAtTheEnds() {
+    C.part("TWO QUARREL: of minutes 0 .. 12");
+    // A takes one: A's own at 0, or B's later, A's then by D
+    for (int minutes = 1; minutes <= 4; minutes++) {
+      for (int door = 0; door <= 12 - minutes; door += 2) {
+        OutInTime x = Check.of("street A D 1 1;street B A " + minutes + " 1;door A 0 1;door B " + door
+            + " 1;safe A 1;safe D 1;open 0 0 0;");
+        int both = Math.max(1, door + minutes);
+        for (int t = 0; t <= 12; t++) {
+          C.due("most(" + t + ")", x.most(t), t < both ? 1 : 2);
+          C.due(both + ": all(" + t + ", 1)", x.all(t, 1), t < both ? 1 : 0);
+          C.due(both + ": all(" + t + ", 2)", x.all(t, 2), t < both ? NONE : 0);
+          C.due(both + ": all(" + t + ", 3)", x.all(t, 3), t < both ? NONE : both);
+          // A's own at 0, or at 1 by D
+          int sum = Math.max(t + 1, t + Math.max(0, t - both + 1));
+          C.due(both + ": all(" + t + ", 0)", x.all(t, 0), sum);
+        }
+      }
+    }
+    // 11 with 12 first: C takes one, who comes at 11 by A, or at 12 by B
+    OutInTime x = Check.of("street A C 1 1;street A D 2 1;street B C 2 1;door A 10 1;door B 10 1;safe C 1;safe D 1;");
+    C.due("up to 11: none", x.all(11, 2), NONE);
+    C.due("up to 12: first", x.all(12, 2), 11);
+    C.due("up to 12: second", x.all(12, 3), 12);
+    C.due("up to 12: one", x.all(12, 1), 0);
+    C.due("up to 12: sum", x.all(12, 0), 2);
+  }
+
   private static void quarrelWhats() {
     C.part("all: NONE for others");
     OutInTime x = Check.of(quarrel(1, 3, 2));
@@ -482,6 +512,23 @@ public final class GoingBoundsTest {
     C.due("none may: turned(0)", Check.of("street B A 1 1;door A 0 1;safe B 1;").turned(0), 0);
     C.due("none may: turned(1)", Check.of("street B A 1 1;door A 0 1;safe B 1;").turned(1), NONE);
     C.due("nobody: turned(1)", Check.of("street B A 1 1;turns 0;").turned(1), 0);
+  }
+
+  private static void bestTurnOfMany() {
+    C.part("BEST TURN: QUICK of people who come out one behind the other");
+    for (int people = 1; people <= 30; people++) {
+      OutInTime x = Check.of("street A B 1 2;street B A 1 1;turns 1;street A B 5 9;turns 2;door A 0 " + people + ";safe B 30;");
+      int told = NONE;
+      int turned = NONE;
+      for (int t = 12; t >= 0; t--) {
+        int far = t >= 5 ? 9 * (t - 4) : 0;
+        told = 2 * t + far >= people ? t : told;
+        turned = 3 * t + far >= people ? t : turned;
+      }
+      C.due(people + ": quick()", x.quick(), told);
+      C.due(people + ": turned(1)", x.turned(1), turned);
+      C.due(people + ": turned(0)", x.turned(0), turned < told ? 2 : 0);
+    }
   }
 
   private static void bestTurnOfFive() {

@@ -50,6 +50,43 @@ final class Matrix {
     return new Matrix(plan, t, ones()).fill();
   }
 
+  /** The same as most, one by one along any way: quicker, so that more towns can be asked. */
+  static int number(Plan plan, int t) {
+    Matrix matrix = new Matrix(plan, t, ones());
+    int sum = 0;
+    while (matrix.sendOne()) {
+      sum++;
+    }
+    return sum;
+  }
+
+  private boolean sendOne() {
+    int[] before = new int[NODES];
+    Arrays.fill(before, -1);
+    before[SOURCE] = SOURCE;
+    int[] queue = new int[NODES];
+    queue[0] = SOURCE;
+    int last = 1;
+    for (int i = 0; i < last && before[SINK] < 0; i++) {
+      int u = queue[i];
+      for (int v = 0; v < NODES; v++) {
+        if (room[u][v] > 0 && before[v] < 0) {
+          before[v] = u;
+          queue[last] = v;
+          last++;
+        }
+      }
+    }
+    if (before[SINK] < 0) {
+      return false;
+    }
+    for (int v = SINK; v != SOURCE; v = before[v]) {
+      room[before[v]][v]--;
+      room[v][before[v]]++;
+    }
+    return true;
+  }
+
   static int bestSum(Plan plan, int t) {
     int[] worth = new int[13];
     for (int m = 0; m <= t; m++) {

@@ -14,6 +14,9 @@ public final class ReferenceTest {
     for (int seed = 0; seed < 60; seed++) {
       againstMatrix(seed);
     }
+    for (int seed = 0; seed < 700; seed++) {
+      againstNumbers(seed);
+    }
     for (int seed = 0; seed < 300; seed++) {
       againstCrowd(seed);
     }
@@ -98,6 +101,26 @@ public final class ReferenceTest {
     }
     CHECK.due("turned(0)", x.turned(0), bestSet);
     CHECK.due("turned(1)", x.turned(1), best);
+  }
+
+  /** Crowded towns, in which many must give way to others. */
+  private static void againstNumbers(int seed) {
+    Dice dice = new Dice(700000 + seed);
+    Plan plan = Plan.random(dice, 3 + dice.upTo(5), 16, 6, 25);
+    OutInTime x = of(plan, seed);
+    CHECK.part("numbers " + seed + " " + plan.text());
+    for (int t = 6; t <= 12; t += 3) {
+      CHECK.due("most(" + t + ")", x.most(t), Matrix.number(plan, t));
+    }
+    int street = dice.upTo(plan.streets.size());
+    if (street < plan.streets.size()) {
+      int t = 8 + dice.upTo(4);
+      plan.streets.get(street).width++;
+      int more = Matrix.number(plan, t) - x.most(t);
+      boolean best = x.wider(t, 0) == street;
+      CHECK.due("wider(" + t + ", 1) is no less than by " + street, more <= Math.max(0, x.wider(t, 1)), true);
+      CHECK.due("wider(" + t + ", 1) by " + street, !best || more == x.wider(t, 1), true);
+    }
   }
 
   private static void checkCut(OutInTime x, Plan now, int t) {

@@ -282,6 +282,14 @@ public final class SignBoundsTest {
     changedDue(x, "all minutes up to 4 are alike", 0, 1, 1, 8, 0);
     x = Check.of("street A C 1 1;open 0 12 12;street A C 1 1;open 1 11 11;door A 0 1;safe C 9;");
     changedDue(x, "at 12 it is in time for one out", 0, 1, 1, 1, 0);
+    x = Check.of("street C H 1 1;street H G 1 1;door H 3 5;safe G 9;");
+    changedDue(x, "of H, by STREET 1", 7, 1, 1, 1 + 2 + 3 + 4 + 5 * 5, 0);
+    x.change(7, 4, NONE);
+    changedDue(x, "of H, up to the next that is told", 7, 4, 1, 1 + 2 + 3 + 4 + 5 * 4, 0);
+    x = Check.of("street B C 1 1;street F G 1 1;door B 0 1;door F 0 2;safe C 9;safe G 9;");
+    changedDue(x, "two of F are more than one of B", 5, 1, 1, 21, 0);
+    x.sign(5, 1);
+    changedDue(x, "B's then", 1, 1, 0, 23 + 11, 23);
     x = Check.of("street A C 1 1;door A 0 5;safe C 9;");
     x.sign(0, 0);
     x.change(0, 1, NONE);
@@ -474,6 +482,10 @@ public final class SignBoundsTest {
     x = Check.of("street A C 2 1;street A B 1 1;street B A 1 1;street B C 1 1;door A 0 1;safe C 1;");
     C.due("signs(0)", x.signs(0), 0);
     C.due("signs(1)", x.signs(1), 2);
+    x = Check.of("street B C 1 1;street B A 1 1;street A C 5 1;street A B 1 1;door A 0 1;safe C 1;");
+    C.due("A's second and B's first: signs(-1)", x.signs(NONE), 11);
+    C.due("signs(0)", x.signs(0), 3);
+    C.due("signs(1)", x.signs(1), 0);
     x = Check.of("street A C 2 1;street A C 1 1;street A C 1 1;door A 0 1;safe C 1;");
     C.due("the lower of two better ones: signs(0)", x.signs(0), 1);
     C.due("signs(-1)", x.signs(NONE), 12);

@@ -24,7 +24,7 @@ public final class TextBoundsTest {
     doorsAtMost();
     peopleTogether();
     toldAhead();
-    openToldTwice();
+    openFromTo();
     toItself();
     secondTimes();
     ofOneTheLeast();
@@ -396,7 +396,7 @@ public final class TextBoundsTest {
     refused(STREET + "slow 0;", 2, 19);
   }
 
-  private static void openToldTwice() {
+  private static void openFromTo() {
     C.part("a STREET told ahead can be entered from a minute to one alone");
     OutInTime x = Check.of(STREET + STREET + "open 1 12 12;");
     C.due("not told: from", x.street(0, 4), 0);

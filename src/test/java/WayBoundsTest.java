@@ -218,6 +218,20 @@ public final class WayBoundsTest {
     x.slow(1, 1, 0);
     x.slow(1, 2, 1);
     C.due("as SLOW: judged(0)", x.judged(0), 0);
+    x.slow(1, 3, 1);
+    C.due("who went on isn't there: judged(0)", x.judged(0), 2);
+    C.due("judged(1)", x.judged(1), 3);
+    C.due("judged(2)", x.judged(2), 1);
+    for (int plain = 0; plain <= 1; plain++) {
+      for (int first = 0; first <= 3; first++) {
+        for (int second = 0; second <= 3; second++) {
+          x = Check.of("street A B 1 9;street A C 1 9;door A 0 3;" + (plain == 0 ? "slow 0;" : ""));
+          C.due("told", plain == 0 ? x.slow(0, 5, first) : x.enter(0, 5, first), true);
+          C.due("told", plain == 0 ? x.slow(1, 5, second) : x.enter(1, 5, second), true);
+          C.due(first + " and " + second + " of 3, by two STREETS", x.judged(0), first + second > 3 ? 2 : 0);
+        }
+      }
+    }
   }
 
   private static void asFewAsCanBe() {
